@@ -63,7 +63,7 @@ public final class GraphNamesAgainstPlain {
 
         boolean go() {
             for (int i = 0; i < CALLS && same; i++) {
-                if (dice.one(9) && CALLS - i > 30) {
+                if (dice.one(12) && CALLS - i > 30) {
                     i += text();
                 } else {
                     one();
@@ -361,6 +361,9 @@ public final class GraphNamesAgainstPlain {
 
         String next() {
             int n = dice.one(4) ? 1 + dice.below(7) : 4 + dice.below(4);
+            if (dice.one(4)) {
+                return even(dice.one(2) ? 7 : n);
+            }
             tokens.add("size");
             tokens.add("" + n);
             boolean[][] linked = new boolean[n][n];
@@ -383,6 +386,39 @@ public final class GraphNamesAgainstPlain {
                 t.append(' ');
             }
             return t.length() > 380 ? t.substring(0, 380) : t.toString();
+        }
+
+        /** A graph with many symmetries or few cells: rings side by side, or links by how far numbers are apart. */
+        private String even(int n) {
+            int[][] kind = new int[n][n];
+            int from = n > 5 && dice.one(2) ? 3 : 0;
+            for (int[] part : new int[][] {{0, from}, {from, n}}) {
+                int m = part[1] - part[0];
+                for (int far = 1; far <= m / 2; far++) {
+                    int k = from > 0 ? far == 1 ? 1 : 0 : dice.below(flavour + 1);
+                    for (int v = 0; v < m; v++) {
+                        int a = part[0] + v;
+                        int b = part[0] + (v + far) % m;
+                        kind[a][b] = kind[b][a] = k;
+                    }
+                }
+            }
+            int[] p = new int[n];
+            for (int v = 0; v < n; v++) {
+                int at = dice.below(v + 1);
+                p[v] = p[at];
+                p[at] = v;
+            }
+            StringBuilder t = new StringBuilder("size " + n);
+            for (int a = 0; a < n; a++) {
+                for (int b = 0; b < a; b++) {
+                    int k = dice.one(150) ? dice.below(4) : kind[a][b];
+                    if (k != 0) {
+                        t.append(";link ").append(p[a]).append(' ').append(p[b]).append(' ').append(k);
+                    }
+                }
+            }
+            return t.toString();
         }
 
         private boolean needsBlank(StringBuilder t, String s) {
