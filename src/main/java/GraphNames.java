@@ -262,10 +262,7 @@ public final class GraphNames {
         if (x == null || y == null) {
             return refused(NO_SUCH);
         }
-        int order = Integer.compare(x.count, y.count);
-        if (order == 0) {
-            order = searchOf(g).best.compareCodes(searchOf(h).best);
-        }
+        int order = searchOf(g).best.compareCodes(searchOf(h).best);
         return answered(order < 0 ? 0 : order > 0 ? 1 : 2);
     }
 
@@ -1108,23 +1105,19 @@ public final class GraphNames {
         int deepest = 0;
         int like = 0;
 
-        @Override
         void forget() {
             deepest = 0;
             like = 0;
         }
 
-        @Override
         boolean skips(int v, int looked, int apart) {
             return false;
         }
 
-        @Override
         boolean cuts(int depth) {
             return false;
         }
 
-        @Override
         void reach() {
             deepest = Math.max(deepest, here.depth);
             int order = leafs == 1 ? -1 : here.compare(best);
@@ -1137,20 +1130,18 @@ public final class GraphNames {
         }
     }
 
-    /** THE SEARCH; its best leaf is the least of the whole tree, as what it leaves is greater or has a like one ahead. */
+    /** THE SEARCH. Its best leaf is the least of the whole tree: what it leaves is greater or has a like one ahead. */
     private static final class Search extends Walk {
         int found = 0;
         int bests = 0;
         final int[] generators = new int[LEAFS];
         private final Leaf first = new Leaf();
 
-        @Override
         void forget() {
             found = 0;
             bests = 0;
         }
 
-        @Override
         boolean skips(int v, int looked, int apart) {
             return in(spread(looked, apart), v);
         }
@@ -1189,7 +1180,6 @@ public final class GraphNames {
             return image;
         }
 
-        @Override
         boolean cuts(int depth) {
             if (leafs == 0) {
                 return false;
@@ -1202,7 +1192,6 @@ public final class GraphNames {
             return here.marks[depth] > best.marks[depth];
         }
 
-        @Override
         void reach() {
             if (leafs == 1) {
                 first.take(here);
@@ -1349,7 +1338,6 @@ public final class GraphNames {
         private static final int WORD = 2;
         private static final int PART = 3;
         private static final int OTHER = 4;
-        private static final int LETTERS = 5;
 
         private static final int FORM = 1;
         private static final int BOUNDS = 2;
@@ -1549,19 +1537,16 @@ public final class GraphNames {
             next = at + 1;
             int b = tape[at];
             if (isLetter(b)) {
-                stepWord();
+                while (next < end && isLetter(tape[next])) {
+                    next++;
+                }
+                // more than five letters are no word of a text, nor a token: the same fault at the same place
+                token = WORD;
             } else if (b >= '0' && b <= '9') {
                 token = SIGN;
             } else {
                 token = b == ';' ? PART : OTHER;
             }
-        }
-
-        private void stepWord() {
-            while (next < end && isLetter(tape[next])) {
-                next++;
-            }
-            token = next - at > LETTERS ? OTHER : WORD;
         }
 
         private static boolean isLetter(int b) {

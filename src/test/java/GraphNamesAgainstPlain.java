@@ -14,12 +14,32 @@ import java.util.Set;
 public final class GraphNamesAgainstPlain {
     private static final int CALLS = 512;
 
+    /**
+     * Graphs that draws seldom make: nodes that are cut, leafs that become BEST two and three times, leafs like FIRST
+     * behind another BEST, a BEST that isn't FIRST and has leafs like it.
+     */
+    private static final String[] RARE = {
+        "size 7;ring 0 1 2;ring 3 4 5 6", "size 7;ring 0 4 5 6;ring 1 2 3",
+        "size 7;link 0 1 2;link 0 2;link 0 4;link 0 5 2;link 1 4 2;link 1 5;link 1 6;link 2 3;link 2 4 2;link 2 6 2;"
+            + "link 3 4;link 3 5 2;link 3 6 2;link 5 6",
+        "size 6;link 0 2 2;link 0 3 3;link 0 4;link 1 3;link 1 4 2;link 1 5 3;link 2 4 3;link 2 5;link 3 5 2",
+        "size 6;link 0 1 3;link 0 2 3;link 0 3 2;link 0 5;link 1 2;link 1 3 3;link 1 4 2;link 2 4 3;link 2 5 2;link 3 4;"
+            + "link 3 5 3;link 4 5 3",
+        "size 6;link 0 1;link 0 2 2;link 0 3 2;link 0 4;link 1 2;link 1 3 2;link 1 5 2;link 2 4 2;link 2 5;link 3 4;link 3 5;"
+            + "link 4 5 2",
+        "size 6;ring 0 1 2;ring 3 4 5;link 0 3;link 1 4;link 2 5", "size 6;ring 0 1 2 3 4 5;link 0 3;link 1 4;link 2 5",
+        "size 7;ring 0 1 3;ring 1 2 4;ring 2 3 5;ring 4 5 6", "size 7", "size 1", "size 6;link 0 1;link 2 3 2;link 4 5 3",
+    };
+
     public static void main(String[] args) {
         int runs = args.length > 0 ? Integer.parseInt(args[0]) : 160;
         long seed = args.length > 1 ? Long.parseLong(args[1]) : 1;
         int wrong = 0;
         for (int run = 0; run < runs && wrong < 5; run++) {
             wrong += new Run(seed * 1_000_003L + run).go() ? 0 : 1;
+        }
+        for (int i = 0; i < RARE.length && wrong < 5; i++) {
+            wrong += new Run(seed).rare(RARE[i]) ? 0 : 1;
         }
         System.out.println(wrong == 0 ? runs + " runs answer as the plain program does" : wrong + " runs differ");
         if (wrong != 0) {
@@ -77,6 +97,65 @@ public final class GraphNamesAgainstPlain {
                 System.out.println(log);
             }
             return same;
+        }
+
+        /** Everything of one graph, and of the same one with other numbers. */
+        boolean rare(String text) {
+            for (int i = 0; i < 12 && same; i++) {
+                StringBuilder padded = new StringBuilder(text);
+                while (padded.length() % 20 != 0) {
+                    padded.append(' ');
+                }
+                for (int j = 0; j < padded.length(); j += 20) {
+                    feed(padded.substring(j, j + 20));
+                }
+                check("text '" + text + "'", real.text(0, text.length()), plain.text(0, text.length()));
+                if (i > 0) {
+                    int s = 1 + dice.below(2147483646);
+                    check("shuffle(0, " + s + ")", real.shuffle(0, s), plain.shuffle(0, s));
+                }
+                all();
+                check("copy(0, 1)", real.copy(0, 1), plain.copy(0, 1));
+            }
+            if (!same) {
+                System.out.println(log);
+            }
+            return same;
+        }
+
+        private void all() {
+            int n = plain.graphs[0].n;
+            for (int w = 0; w < 6; w++) {
+                check("tree(0, " + w + ")", real.tree(0, w), plain.tree(0, w));
+                check("search(0, " + w + ")", real.search(0, w), plain.search(0, w));
+                check("symmetries(0, " + w + ")", real.symmetries(0, w), plain.symmetries(0, w));
+                check("cards(0, " + w + ")", real.cards(0, w), plain.cards(0, w));
+            }
+            for (int i = 0; i < 25; i++) {
+                for (int v = 0; v < n; v++) {
+                    check("generator(0, " + i + ", " + v + ")", real.generator(0, i, v), plain.generator(0, i, v));
+                }
+            }
+            for (int k = 0; k < 30; k++) {
+                check("name(0, " + k + ")", real.name(0, k), plain.name(0, k));
+                check("place(0, " + k + ")", real.place(0, k), plain.place(0, k));
+            }
+            for (int v = 0; v < n; v++) {
+                check("orbit(0, " + v + ")", real.orbit(0, v), plain.orbit(0, v));
+                check("apart(0, " + v + ", 0)", real.apart(0, v, 0), plain.apart(0, v, 0));
+                check("apart(0, " + v + ", 1)", real.apart(0, v, 1), plain.apart(0, v, 1));
+                check("map(0, 1, " + v + ")", real.map(0, 1, v), plain.map(0, 1, v));
+            }
+            for (int set = 0; set < 1 << n; set++) {
+                check("leave(0, " + set + ")", real.leave(0, set), plain.leave(0, set));
+                check("base(0, " + set + ")", real.base(0, set), plain.base(0, set));
+            }
+            check("fewest(0)", real.fewest(0), plain.fewest(0));
+            check("turned(0)", real.turned(0), plain.turned(0));
+            check("maps(0, 1)", real.maps(0, 1), plain.maps(0, 1));
+            check("changes(0, 1)", real.changes(0, 1), plain.changes(0, 1));
+            check("told(0, 1)", real.told(0, 1), plain.told(0, 1));
+            check("less(0, 1)", real.less(0, 1), plain.less(0, 1));
         }
 
         private void check(String call, long got, long want) {

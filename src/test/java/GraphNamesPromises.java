@@ -220,6 +220,11 @@ public final class GraphNamesPromises {
         fault("paint 0 0", 1, 0);
         fault("sizes 3", 1, 0);
         fault("siz", 1, 0);
+        fault("dize 3", 1, 0);
+        fault("size 3;saint 0 0", 1, 7);
+        fault("size 3;sink 0 1", 1, 7);
+        fault("size 3;bath 0 1", 1, 7);
+        fault("size 3;king 0 1 2", 1, 7);
         fault(" size", 1, 5);
         fault("size;", 1, 4);
         fault("size x", 1, 5);
@@ -284,6 +289,15 @@ public final class GraphNamesPromises {
         fault("size 3;link 2 0;ring 0 1 2 x", 1, 27);
         fault("size 3;link 2 0;ring 0 1 2 9", 2, 27);
         fault("size 3;link 2 0;ring 0 1 2 0", 3, 27);
+        // what stands behind the bytes of the text is not of it
+        GraphNames y = new GraphNames();
+        put(y, "sizes 3");
+        refused("'size' of 'sizes 3'", y, y.text(0, 4), 4);
+        promise = 5;
+        due("'size' of 'sizes 3', where()", y.where(), 4);
+        put(y, "size 3;link 0 1 9");
+        promise = 3;
+        fine("'size 3;link 0 1' of 'size 3;link 0 1 9'", y, y.text(0, 15), 3);
         // refused ahead of its reading
         GraphNames x = new GraphNames();
         read(x, 0, "size 9");
