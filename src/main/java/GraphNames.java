@@ -825,6 +825,7 @@ public final class GraphNames {
 
     /** A row of cells. */
     private static final class Cells {
+        private static final long ABOVE_SIGNS = 0x7fffffffffffffffL;
         int count = 0;
         int rounds = 0;
         final int[] sets = new int[MOST];
@@ -895,7 +896,7 @@ public final class GraphNames {
         private void split(int set) {
             int left = set;
             while (left != 0 && partCount < MOST) {
-                long least = Long.MAX_VALUE;
+                long least = ABOVE_SIGNS;
                 int part = 0;
                 for (int v = 0; v < MOST; v++) {
                     if ((left >> v & 1) != 0 && own[v] <= least) {

@@ -16,7 +16,7 @@ public final class GraphNamesAgainstPlain {
 
     /**
      * Graphs that draws seldom make: nodes that are cut, leafs that become BEST two and three times, leafs like FIRST
-     * behind another BEST, a BEST that isn't FIRST and has leafs like it.
+     * behind another BEST, a BEST that isn't FIRST and has leafs like it, leafs that only their own MARKS tell apart.
      */
     private static final String[] RARE = {
         "size 7;ring 0 1 2;ring 3 4 5 6", "size 7;ring 0 4 5 6;ring 1 2 3",
@@ -28,6 +28,10 @@ public final class GraphNamesAgainstPlain {
         "size 6;link 0 1;link 0 2 2;link 0 3 2;link 0 4;link 1 2;link 1 3 2;link 1 5 2;link 2 4 2;link 2 5;link 3 4;link 3 5;"
             + "link 4 5 2",
         "size 6;ring 0 1 2;ring 3 4 5;link 0 3;link 1 4;link 2 5", "size 6;ring 0 1 2 3 4 5;link 0 3;link 1 4;link 2 5",
+        "size 6;link 0 1 3;link 0 2;link 0 4;link 1 3;link 1 4;link 2 3 3;link 2 5;link 3 5;link 4 5 3",
+        "size 6;link 0 2;link 0 3 3;link 0 4 2;link 1 3 2;link 1 4;link 1 5 3;link 2 4 3;link 2 5 2;link 3 5",
+        "size 6;link 0 3 2;link 0 4;link 0 5;link 1 2;link 1 4;link 1 5 2;link 2 3;link 2 4 2;link 3 5",
+        "size 7;link 0 5;link 0 6;link 1 5;link 1 6;link 2 3;link 2 4;link 2 6;link 3 4", "size 5;ring 0 1 2 3 4",
         "size 7;ring 0 1 3;ring 1 2 4;ring 2 3 5;ring 4 5 6", "size 7", "size 1", "size 6;link 0 1;link 2 3 2;link 4 5 3",
     };
 
@@ -39,7 +43,9 @@ public final class GraphNamesAgainstPlain {
             wrong += new Run(seed * 1_000_003L + run).go() ? 0 : 1;
         }
         for (int i = 0; i < RARE.length && wrong < 5; i++) {
-            wrong += new Run(seed).rare(RARE[i]) ? 0 : 1;
+            for (int j = 0; j < 24 && wrong < 5; j++) {
+                wrong += new Run(seed * 31 + j).rare(RARE[i], j > 1, j % 2 == 1) ? 0 : 1;
+            }
         }
         System.out.println(wrong == 0 ? runs + " runs answer as the plain program does" : wrong + " runs differ");
         if (wrong != 0) {
@@ -75,6 +81,7 @@ public final class GraphNamesAgainstPlain {
         private final StringBuilder log = new StringBuilder();
         private final int flavour;
         private boolean same = true;
+        private int calls = 0;
 
         Run(long seed) {
             dice = new Dice(seed);
@@ -82,40 +89,46 @@ public final class GraphNamesAgainstPlain {
         }
 
         boolean go() {
-            for (int i = 0; i < CALLS && same; i++) {
-                if (dice.one(12) && CALLS - i > 30) {
-                    i += text();
-                } else {
+            while (same && calls < CALLS) {
+                if (dice.one(12) && CALLS - calls > 30) {
+                    text();
+                } else if (CALLS - calls > 4) {
                     one();
                 }
-                if (dice.one(2)) {
+                if (CALLS - calls <= 4 || dice.one(2)) {
                     check("trouble()", real.trouble(), plain.trouble());
-                    i++;
                 }
             }
-            if (!same) {
-                System.out.println(log);
-            }
-            return same;
+            return shown();
         }
 
-        /** Everything of one graph, and of the same one with other numbers. */
-        boolean rare(String text) {
-            for (int i = 0; i < 12 && same; i++) {
-                StringBuilder padded = new StringBuilder(text);
-                while (padded.length() % 20 != 0) {
-                    padded.append(' ');
-                }
-                for (int j = 0; j < padded.length(); j += 20) {
-                    feed(padded.substring(j, j + 20));
-                }
-                check("text '" + text + "'", real.text(0, text.length()), plain.text(0, text.length()));
-                if (i > 0) {
-                    int s = 1 + dice.below(2147483646);
-                    check("shuffle(0, " + s + ")", real.shuffle(0, s), plain.shuffle(0, s));
-                }
-                all();
+        /** Half of everything of one graph, also of the same one with other numbers. */
+        boolean rare(String text, boolean shuffled, boolean sets) {
+            StringBuilder padded = new StringBuilder(text);
+            while (padded.length() % 20 != 0) {
+                padded.append(' ');
+            }
+            for (int j = 0; j < padded.length(); j += 20) {
+                feed(padded.substring(j, j + 20));
+            }
+            check("text '" + text + "'", real.text(0, text.length()), plain.text(0, text.length()));
+            if (shuffled) {
+                int s = 1 + dice.below(2147483646);
                 check("copy(0, 1)", real.copy(0, 1), plain.copy(0, 1));
+                check("shuffle(0, " + s + ")", real.shuffle(0, s), plain.shuffle(0, s));
+            }
+            if (sets) {
+                allSets();
+            } else {
+                allNames();
+            }
+            return shown();
+        }
+
+        private boolean shown() {
+            if (calls > CALLS) {
+                System.out.println(calls + " calls, more than an object is used for");
+                return false;
             }
             if (!same) {
                 System.out.println(log);
@@ -123,7 +136,7 @@ public final class GraphNamesAgainstPlain {
             return same;
         }
 
-        private void all() {
+        private void allNames() {
             int n = plain.graphs[0].n;
             for (int w = 0; w < 6; w++) {
                 check("tree(0, " + w + ")", real.tree(0, w), plain.tree(0, w));
@@ -146,7 +159,10 @@ public final class GraphNamesAgainstPlain {
                 check("apart(0, " + v + ", 1)", real.apart(0, v, 1), plain.apart(0, v, 1));
                 check("map(0, 1, " + v + ")", real.map(0, 1, v), plain.map(0, 1, v));
             }
-            for (int set = 0; set < 1 << n; set++) {
+        }
+
+        private void allSets() {
+            for (int set = 0; set < 1 << plain.graphs[0].n; set++) {
                 check("leave(0, " + set + ")", real.leave(0, set), plain.leave(0, set));
                 check("base(0, " + set + ")", real.base(0, set), plain.base(0, set));
             }
@@ -159,6 +175,7 @@ public final class GraphNamesAgainstPlain {
         }
 
         private void check(String call, long got, long want) {
+            calls++;
             if (!same) {
                 return;
             }
@@ -187,9 +204,8 @@ public final class GraphNamesAgainstPlain {
             return dice.one(15) ? dice.below(most + 6) - 3 : dice.below(most + 1);
         }
 
-        private int text() {
+        private void text() {
             String t = new Texts(dice, flavour).next();
-            int calls = 0;
             int n = t.length();
             StringBuilder padded = new StringBuilder(t);
             while (padded.length() % 20 != 0) {
@@ -197,7 +213,6 @@ public final class GraphNamesAgainstPlain {
             }
             for (int i = 0; i < padded.length(); i += 20) {
                 feed(padded.substring(i, i + 20));
-                calls++;
             }
             int g = dice.below(3);
             int held = plain.size();
@@ -209,7 +224,6 @@ public final class GraphNamesAgainstPlain {
             check("trouble()", real.trouble(), plain.trouble());
             check("fault()", real.fault(), plain.fault());
             check("where()", real.where(), plain.where());
-            return calls + 4;
         }
 
         private void feed(String twenty) {

@@ -142,13 +142,16 @@ public final class GraphNamesFace {
     private static void extremes() throws Exception {
         int[] odd = {Integer.MIN_VALUE, -2, -1, 0, 1, 2, 3, 6, 7, 8, 31, 32, 127, 128, 1 << 20, Integer.MAX_VALUE};
         GraphNames x = new GraphNames();
-        dearest(x);
         for (Method m : GraphNames.class.getDeclaredMethods()) {
             if (!Modifier.isPublic(m.getModifiers())) {
                 continue;
             }
             int n = m.getParameterCount();
             for (int i = 0; i < Math.pow(odd.length, Math.min(n, 3)); i++) {
+                if (i % 256 == 0) {
+                    x = new GraphNames();
+                    dearest(x);
+                }
                 Object[] a = new Object[n];
                 for (int j = 0, r = i; j < n; j++, r /= odd.length) {
                     a[j] = j < 3 ? odd[r % odd.length] : odd[(i + j) % odd.length];
