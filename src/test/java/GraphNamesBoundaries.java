@@ -268,6 +268,8 @@ public final class GraphNamesBoundaries {
     private static void newObjects() {
         GraphNames other = scene();
         GraphNames x = new GraphNames();
+        holds(1, "NONE = -1: There is none; refused");
+        due("NONE", GraphNames.NONE, -1);
         holds(1, "Three VERTICES, alone; THREE GRAPHS, 0 .. 2 (each with one VERTEX of COLOUR 0 at first)");
         due("all graphs", pictures(x), "1|0| 1|0| 1|0|");
         for (int g = 0; g < 3; g++) {
